@@ -452,7 +452,7 @@ public final class TiltTray {
         return NONE;
     }
 
-    private static int partTold(char letter) {
+    private static int partTold(int letter) {
         switch (letter) {
             case 'M':
                 return MARBLE;

@@ -111,6 +111,13 @@ public final class PromiseTest {
     faultOf("TMa0Mb0Mc0Md0Me0", 13);
     faultOf("TWaWbWcWdWeWfOgOhOiFjFkFlNmNnMo0Mp1Mq2Mr3Ms0", 41);
     faultOf("TWaWbWcWdWeWfOgOhOiFjFkFlNmNnMo0Mp1Mq2Mr3T000000", 41);
+    TiltTray t = tray("TWaOb");
+    write(t, "TW");
+    due("4: what was wiped is not read", t.fault(), 2);
+    due("4: a fault leaves the table", t.count(2), 1);
+    write(t, "TMa0");
+    write(t, "TMb");
+    due("4: nor a kind", t.fault(), 3);
   }
 
   private static void promise5() {
@@ -143,6 +150,13 @@ public final class PromiseTest {
     due("5: seed stays", t.seed(0), 77);
     due("5: the text stays", t.count(0), 6);
     places("5", t, 0);
+    due("5: read again", t.fault(), NONE);
+    due("5: reading leaves the table", t.cell(4, 0), 2);
+    write(t, "TNc");
+    t.table();
+    write(t, "TMb1");
+    t.table();
+    due("5: magnets are gone", t.rolls(0, 1), 4);
     write(t, "T");
     due("5: empty", t.table(), 0);
     due("5: no marble", t.marble(0, 0), UNKNOWN);
@@ -183,6 +197,8 @@ public final class PromiseTest {
     due("7: ways", t.marble(0, 2), 15);
     due("7: ways of a contrary one", t.marble(1, 2), 1 + 4);
     due("7: falls", t.marble(0, 3), 2);
+    due("7: falls to the left", tray("TMm0Ok").marble(0, 3), 1);
+    due("7: falls at cell 0", tray("TMk0Oa").marble(0, 3), 4);
     t.tilt(1);
     due("7: in", t.marble(0, 1), 113);
     due("7: in: ways", t.marble(0, 2), 0);
@@ -244,6 +260,17 @@ public final class PromiseTest {
     t = tray("TMa0Mb2");
     t.tilt(1);
     places("8: behind a wax one", t, 1, 2);
+    t = tray("TMa2Mb0");
+    t.tilt(1);
+    places("8: a wax one waits and goes once", t, 1, 4);
+    t = tray("TMc1Md0Fb");
+    t.lift(0, 1);
+    t.lift(1, 2);
+    t.tilt(1);
+    places("8: one on felt waits and goes", t, 3, 4);
+    t = tray("TMa2Mb2Mc2");
+    t.tilt(1);
+    places("8: each once", t, 1, 2, 3);
     t = tray("TMa0Mf0Mk0Mp0OeOjOo");
     due("8: three fall", t.tilt(1), 3);
     places("8: three in", t, 104, 109, 114, 19);
@@ -297,6 +324,11 @@ public final class PromiseTest {
     places("9", t, 1, 0);
     due("9: falls when it comes again", t.tilt(1), 1);
     places("9", t, 103, 4);
+    t = tray("TMc0Oa");
+    t.tilt(0);
+    due("9: out of the hole at cell 0", t.lift(0, 24), 100);
+    due("9: that is not full any more", t.count(7), 0);
+    due("9: its cell alone", t.count(6), bits(24));
   }
 
   private static void promise10() {
@@ -371,6 +403,9 @@ public final class PromiseTest {
     t.tilt(2);
     due("13: both are in", t.safe(), 15);
     due("13: empty", new TiltTray().safe(), 15);
+    due("13: not to the left", tray("TMm0Ok").safe(), 14);
+    due("13: nor to the front", tray("TMm0Ow").safe(), 7);
+    due("13: nor onto cell 0", tray("TMc0Oa").safe(), 14);
   }
 
   private static void promise14() {
@@ -393,6 +428,12 @@ public final class PromiseTest {
     t = tray("TMm0On");
     due("14: one", t.fewest(0, true), 2);
     due("14: nothing changed", t.marble(0, 1), 12);
+    due("14: to the left", tray("TMm0Ok").fewest(0, true), 1);
+    due("14: to cell 0", tray("TMm0Oa").fewest(0, true), 13);
+    due("14: the wax one makes way", tray("TMa0Mb2WfOd").fewest(0, true), 42);
+    due("14: so as the third", tray("TMa0My0Mb2WfOd").fewest(0, true), 42);
+    due("14: so as the last", tray("TMa0My0Mx0Mb2WfOd").fewest(0, true), 42);
+    due("14: so before it", tray("TMb2Ma0WfOd").fewest(1, true), 42);
     t = tray("TMb0Oe");
     due("14: least as a number, not by way of another length", t.fewest(0, true), 2);
   }
@@ -434,6 +475,9 @@ public final class PromiseTest {
     t = tray("TMa2Oc");
     due("16: too few", t.best(1, false), 0);
     due("16: just enough", t.best(2, true), 22);
+    t = tray("TMa0OmOn");
+    due("16: fewer than there is room for", t.best(2, false), 0);
+    due("16: then too the first row", t.best(2, true), 11);
   }
 
   private static void promise17() {
@@ -460,6 +504,15 @@ public final class PromiseTest {
     t = tray("TMh0Mf0Oj");
     due("17: not where a marble is", t.saves(0, 1), 8);
     due("17: nothing changed", t.count(8), 0);
+    due("17: at cell 0", tray("TMk0Oa").saves(0, 2), 5);
+    t = tray("TMe0Oa");
+    due("17: to the left", t.saves(0, 0), 1);
+    due("17: to the front", tray("TMc0Om").saves(0, 3), 7);
+    t = tray("TMc0Me0Ob");
+    t.tilt(0);
+    t.lift(1, 1);
+    t.lift(0, 4);
+    due("17: cell 0, by which another one stays on the hole", t.saves(0, 0), 0);
     t = tray("TMm0Mb3On");
     due("17: another one's way does not help", t.saves(0, 1), NONE);
     t = tray("TMl2Mc2On");
@@ -488,6 +541,13 @@ public final class PromiseTest {
     due("18: a wedge holds", t.judge(3, 102001200L), NONE);
     due("18: a wedge is off", t.judge(4, 102102001201L), NONE);
     due("18: first of two", t.judge(4, 201201L), 2);
+    due("18: row 0", t.judge(1, 0), NONE);
+    due("18: row 0 of four", t.judge(4, 0), NONE);
+    t = tray("TMa0Mf0Oj");
+    due("18: the second marble", t.judge(3, 210001211L), NONE);
+    due("18: the second marble, told not", t.judge(2, 1210L), 1);
+    due("18: the first is not", t.judge(2, 1201L), 1);
+    t = tray("TMa0Oe");
     due("18: nothing changed", t.count(6) + t.count(8) + t.count(9) + t.count(10), 1);
   }
 
@@ -608,6 +668,7 @@ public final class PromiseTest {
     t = tray("TMm0Ma3Oo");
     due("23: two marbles", t.rests(0), 3);
     due("23: two marbles, the first", t.rests(1), 10);
+    due("23: both fall by ways that are alike", tray("TMa2Mf2OcOh").rests(0), 13);
     due("23: what 2", t.rests(2), OUTSIDE);
     due("23: what -1", t.rests(-1), OUTSIDE);
     t = tray("TMs0Mg1Mh1Mv0ObOyWqWdWiFn");
@@ -624,6 +685,8 @@ public final class PromiseTest {
     TiltTray t = tray("TMa0Oe");
     failsOf("one", t, 1, 2, 3, 7, 10);
     failsOf("one, in least terms", t, 1, 2, 5, 1, 2);
+    failsOf("one, mostly", t, 1, 2, 9, 1, 10);
+    failsOf("two, mostly", t, 2, 42, 9, 9, 100);
     failsOf("two", t, 2, 22, 5, 3, 4);
     failsOf("never fails", t, 1, 2, 0, 1, 1);
     failsOf("always fails", t, 4, 2222, 10, 0, 1);
