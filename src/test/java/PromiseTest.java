@@ -1,4 +1,7 @@
-/** For each promise of the document: ordinary inputs, the edges that it names, wrong inputs. Worked out by hand. */
+/**
+ * For each promise of the document: ordinary inputs, the edges that it names, wrong inputs. Worked out by hand, but for
+ * two trays that a search found (a share below 0, no pair at rest), whose answers ModelTest's model gave too.
+ */
 public final class PromiseTest {
   private static final int UNKNOWN = -1, OUTSIDE = -2, STATE = -3, FULL = -4, NONE = -9;
   private static final int ALL = (1 << 25) - 1;
