@@ -2,6 +2,7 @@ import java.io.IOException;
 import java.math.BigInteger;
 import java.nio.file.Files;
 import java.nio.file.Path;
+import java.util.Random;
 
 /**
  * Each sentence of the document that names a boundary (too small, too large, empty, full, a wrap-around, a refused
@@ -171,8 +172,58 @@ public final class BoundaryTest {
     t = tray("TMa2");
     for (int call = 7; call < 500; call++) t.tilt(call % 2);
     for (int left = 13; left > 1; left--) due("undo() among the last calls", t.undo(), left);
-    for (int call = 513; call < 4000; call++) t.tilt(call % 4);
-    t.undo();
+  }
+
+  private static void laterCalls() {
+    says("What it is", "what later calls answer is free");
+    int[] edges = {LEAST, -33, -1, 0, 1, 2, 3, 4, 5, 6, 10, 11, 12, 24, 25, 26, 30, 31, 32, 33, 100, 125, 255, 256,
+        MOST};
+    Random drawn = new Random(512);
+    TiltTray t = busy();
+    for (int call = 0; call < 40000; call++) {
+      int[] a = new int[4];
+      for (int i = 0; i < 4; i++) a[i] = edges[drawn.nextInt(edges.length)];
+      try {
+        anyCall(t, drawn.nextInt(28), a);
+      } catch (RuntimeException thrown) {
+        tell("call " + call + " threw " + thrown);
+      }
+      if (call % 1000 == 999) write(t, call % 2000 == 999 ? MOST_PARTS : "TMa0Mg1Mm2Ms3ObOqOyFcNv");
+    }
+  }
+
+  private static long anyCall(TiltTray t, int which, int[] a) {
+    boolean flag = a[3] > 5;
+    switch (which) {
+      case 0: return t.write(a[0]);
+      case 1: return a[0] == LEAST ? t.wipe() : t.count(a[1]);
+      case 2: return t.fault();
+      case 3: return t.table();
+      case 4: return t.cell(a[0], a[1]);
+      case 5: return t.marble(a[0], a[1]);
+      case 6: return t.tilt(a[0]);
+      case 7: return t.lift(a[0], a[1]);
+      case 8: return t.wedge(a[0]);
+      case 9: return t.undo();
+      case 10: return t.rolls(a[0], a[1]);
+      case 11: return t.safe();
+      case 12: return t.fewest(a[0], flag);
+      case 13: return t.reach(a[0]);
+      case 14: return t.best(a[0], flag);
+      case 15: return t.saves(a[0], a[1]);
+      case 16: return t.judge(a[0], a[1] * (long) a[2]);
+      case 17: return t.see(a[0], a[1], a[2]);
+      case 18: return t.unsee();
+      case 19: return t.hidden();
+      case 20: return t.share(a[0], flag);
+      case 21: return t.rests(a[0]);
+      case 22: return t.fails(a[0], a[1], a[2], a[3], flag);
+      case 23: return t.seed(a[0] * (long) a[1]);
+      case 24: return t.days(a[0]);
+      case 25: return t.keep(a[0]);
+      case 26: return t.again(a[0]);
+      default: return t.count(a[0]);
+    }
   }
 
   private static void numbersOfRefusals() {
@@ -221,10 +272,11 @@ public final class BoundaryTest {
   /** How many of these calls are not refused. */
   private static int refuseAll(TiltTray t) {
     long[] answers = {t.write(-1), t.write(256), t.table(), t.cell(25, 0), t.cell(0, 4), t.marble(4, 0),
-        t.marble(-1, 4), t.tilt(4), t.tilt(-1), t.lift(4, 0), t.lift(0, 25), t.lift(-1, -1), t.wedge(25), t.wedge(-1), t.rolls(4, 0),
-        t.fewest(4, true), t.reach(-1), t.best(0, true), t.best(5, false), t.saves(4, 0), t.judge(0, 0), t.judge(5, 0),
-        t.judge(1, 1000), t.judge(1, -1), t.see(25, 0, 0), t.see(0, 4, 0), t.see(0, 0, 26), t.share(4, true),
-        t.rests(2), t.fails(4, 1, 1, 1, true), t.days(0), t.days(31), t.keep(2), t.again(2), t.again(1), t.count(12)};
+        t.marble(-1, 4), t.tilt(4), t.tilt(-1), t.lift(4, 0), t.lift(0, 25), t.lift(-1, -1), t.wedge(25), t.wedge(-1),
+        t.rolls(4, 0), t.fewest(4, true), t.reach(-1), t.best(0, true), t.best(5, false), t.saves(4, 0),
+        t.judge(0, 0), t.judge(5, 0), t.judge(1, 1000), t.judge(1, -1), t.see(25, 0, 0), t.see(0, 4, 0),
+        t.see(0, 0, 26), t.share(4, true), t.rests(2), t.fails(4, 1, 1, 1, true), t.days(0), t.days(31), t.keep(2),
+        t.again(2), t.again(1), t.count(12)};
     int taken = 0;
     for (long answer : answers) if (answer < FULL || answer > UNKNOWN) taken++;
     return taken;
@@ -456,6 +508,17 @@ public final class BoundaryTest {
     due("marbles", t.count(1), 0);
     due("their cells", t.count(6), 0);
     due("holes", t.count(3), 0);
+    String[] between = {"", "T", "TWa"};
+    for (String text : between) {
+      t = tray("TMa0Ml1NmMx0");
+      write(t, text);
+      t.table();
+      write(t, "TMk1");
+      due("table, a smaller one", t.table(), 1);
+      due("no second marble", t.cell(11, 1), NONE);
+      due("no third marble", t.cell(23, 1), NONE);
+      due("no magnet", t.rolls(0, 1), 14);
+    }
   }
 
   private static void whereOneCanBe() {
@@ -531,7 +594,9 @@ public final class BoundaryTest {
     places("contrary", tilted("TMl3Om", 0), 112);
     places("at the first cell", tilted("TMb0Oa", 0), 100);
     places("at the last cell", tilted("TMx0Oy", 1), 124);
-    places("three holes", tilted("TMa0Mf0Mk0Mp0ObOgOl", 1), 101, 106, 111, 19);
+    t = tilted("TMa0Mf0Mk0Mp0ObOgOl", 1);
+    places("three holes", t, 101, 106, 111, 19);
+    due("all three are full", t.count(7), bits(1, 6, 11));
   }
 
   private static void felt() {
@@ -582,6 +647,12 @@ public final class BoundaryTest {
     due("out", t.lift(1, 24), 106);
     due("no hole is full", t.count(7), 0);
     due("on the tray", t.count(6), bits(6, 24));
+    t = tilted("TMb0Oa", 0);
+    due("out of the hole at the first cell", t.lift(0, 12), 100);
+    due("that is not full", t.count(7), 0);
+    t = tilted("TMx0Oy", 1);
+    due("out of the hole at the last cell", t.lift(0, 12), 124);
+    due("that is not full", t.count(7), 0);
   }
 
   private static void wedgedAtMost() {
@@ -762,6 +833,10 @@ public final class BoundaryTest {
     t.wedge(2);
     due("three wedges are", t.saves(0, 1), NONE);
     due("three wedges are, it does not fall", t.saves(0, 0), 25);
+    t = tray("TMo3Mk0Om");
+    due("the other one falls first", t.saves(1, 1), 25);
+    t.wedge(13);
+    due("by what is wedged already it falls", t.saves(1, 1), 11);
   }
 
   private static void judgedFigures() {
@@ -891,6 +966,7 @@ public final class BoundaryTest {
     due("none", t.rests(0), 0);
     due("none, the first", t.rests(1), NONE);
     due("alike", tray("TMa2Mf2OcOh").rests(0), 13);
+    due("10 times the one", tray("TMm0Ma3Oo").rests(1), 10);
     due("the last way of the other one", tray("TMa2Of").rests(1), 3);
   }
 
@@ -1065,6 +1141,13 @@ public final class BoundaryTest {
     due("letters", t.count(0), 0);
     due("written anew", t.write('T'), 1);
     due("nothing of it is left", t.fault(), NONE);
+    t = written("TMa0Wb");
+    write(t, "TMa");
+    due("no kind is left", t.fault(), 3);
+    write(t, "TM");
+    due("no cell is left", t.fault(), 2);
+    t.wipe();
+    due("no T is left", t.fault(), 0);
   }
 
   private static void promise4() {
@@ -1153,6 +1236,8 @@ public final class BoundaryTest {
     TiltTray t = tray("TMm0OlOnOh");
     due("elsewhere", t.marble(0, 2), 15);
     due("falls", t.marble(0, 3), 7);
+    due("falls at the first cell", tray("TMb0Oa").marble(0, 3), 1);
+    due("falls at the last cell", tray("TMt0Oy").marble(0, 3), 8);
     due("in: cell", tilted("TMb0Oa", 0).marble(0, 1), 100);
     due("in: elsewhere", tilted("TMb0Oa", 0).marble(0, 2), 0);
     due("in: falls", tilted("TMb0Oa", 0).marble(0, 3), 0);
@@ -1521,6 +1606,7 @@ public final class BoundaryTest {
 
   private static void terms() {
     lastCall();
+    laterCalls();
     numbersOfRefusals();
     firstNamed();
     refusedOneAfterAnother();
