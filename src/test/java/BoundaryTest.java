@@ -2,6 +2,7 @@ import java.io.IOException;
 import java.math.BigInteger;
 import java.nio.file.Files;
 import java.nio.file.Path;
+import java.util.Arrays;
 import java.util.Random;
 
 /**
@@ -970,6 +971,21 @@ public final class BoundaryTest {
     due("the last way of the other one", tray("TMa2Of").rests(1), 3);
   }
 
+  /** One that can not go at all, and one that falls by a pair of ways: whose number it has says who has more by it. */
+  private static void pairsOfTwoWays() {
+    says("Terms 3", "pairs of ways in which neither has more by another way alone");
+    TiltTray t = tray("TMm1NhMa0Oy");
+    due("the other one has it: 01 02 03 13 20 21 23 31", t.rests(0), 8);
+    due("the other one has it, the first", t.rests(1), 1);
+    t = tray("TMa0Mm1NhOy");
+    due("the one has it: 02 10 12 13 20 30 31 32", t.rests(0), 8);
+    due("the one has it, the first", t.rests(1), 2);
+    t = tray("TMa1NbMm2On");
+    due("the other one has it by the one's right alone: all but the alike", t.rests(0), 12);
+    t = tray("TMm1NhMn2Oo");
+    due("the same, but the way left is barred, so that by left of the one only right rests", t.rests(0), 10);
+  }
+
   private static void failingTilts() {
     says("Terms 3",
         "each TILT of a told row (n figures, 1 to 4, WAYS and 1) fails by x tenths (0 to 10), by itself (nothing "
@@ -1216,6 +1232,26 @@ public final class BoundaryTest {
     t.wedge(4);
     due("cell(4, 3)", t.cell(4, 3), 1);
     due("cell(5, 3)", t.cell(5, 3), 0);
+  }
+
+  private static void whoIsThere() {
+    says("Promise 6", "the MARBLE there (1; NONE)");
+    String[] told = {"Mb0", "Mg1", "Mm2", "My3"};
+    TiltTray grown = new TiltTray();
+    for (int marbles = 0; marbles <= 4; marbles++) {
+      String text = "T" + String.join("", Arrays.copyOf(told, marbles));
+      write(grown, text);
+      grown.table();
+      TiltTray shrunk = tray("TMa0Mc1Mk2Mx3");
+      write(shrunk, text);
+      shrunk.table();
+      for (int cell = 0; cell < 25; cell++) {
+        int marble = text.indexOf("M" + CELLS.charAt(cell));
+        int want = marble < 0 ? NONE : (marble - 1) / 3;
+        due("cell(" + cell + ", 1) of " + text, grown.cell(cell, 1), want);
+        due("cell(" + cell + ", 1) of " + text + ", behind four", shrunk.cell(cell, 1), want);
+      }
+    }
   }
 
   private static void promise7() {
@@ -1668,6 +1704,7 @@ public final class BoundaryTest {
     putThere();
     shares();
     pairsAtRest();
+    pairsOfTwoWays();
     failingTilts();
     wrapping();
     upperBits();
@@ -1685,6 +1722,7 @@ public final class BoundaryTest {
     promise5();
     tableForgets();
     promise6();
+    whoIsThere();
     promise7();
     promise8();
     promise9();
