@@ -732,7 +732,8 @@ public final class BoundaryTest {
     still("judge", t -> t.judge(4, 115002113003L), NONE);
     still("hidden", t -> t.hidden(), 0);
     still("share", t -> t.share(0, true), 1);
-    still("rests", t -> t.rests(2), OUTSIDE);
+    still("rests, all but the alike, behind right only back", t -> t.rests(0), 10);
+    still("rests, the first", t -> t.rests(1), 1);
     still("fails", t -> t.fails(0, 4, 1234, 5, true), 1);
     still("fault", t -> t.fault(), 2);
     still("count", t -> t.count(7), bits(2));
